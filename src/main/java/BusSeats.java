@@ -54,9 +54,7 @@ public final class BusSeats {
     private static final int NOT_SO = 5;
     private static final int THERE_IS_NONE = 6;
 
-    private final byte[] tape = new byte[TAPE_BYTES];
-    private int tapeLength;
-    private final Parser parser;
+    private final Parser parser = new Parser();
     private Plan plan = new Plan();
     private Plan draft = new Plan();
     private boolean hasBus;
@@ -68,11 +66,8 @@ public final class BusSeats {
     private final Odds lots;
     private final Deals cards;
     private int latestTrouble;
-    private int latestFault;
-    private int latestPlace = NONE;
 
     public BusSeats() {
-        parser = new Parser(tape);
         ride = new Ride(plan);
         imagined = new Scene(plan.cabin);
         Ride[] spare = new Ride[MOST_BOARDING];
@@ -86,26 +81,22 @@ public final class BusSeats {
     // ---- the bus
 
     public int feed(int a, int b, int c, int d, int e) {
-        if (tapeLength + FEED_BYTES > TAPE_BYTES) {
+        if (parser.length + FEED_BYTES > TAPE_BYTES) {
             return NONE;
         }
-        append(a);
-        append(b);
-        append(c);
-        append(d);
-        append(e);
-        return tapeLength;
+        parser.append(a);
+        parser.append(b);
+        parser.append(c);
+        parser.append(d);
+        parser.append(e);
+        return parser.length;
     }
 
     public int bus(int n) {
-        if (n < 0 || n > tapeLength) {
+        if (n < 0 || n > parser.length) {
             return refused(BAD_NUMBER);
         }
-        tapeLength = 0;
-        boolean sound = parser.read(draft, n);
-        latestFault = parser.fault;
-        latestPlace = parser.place;
-        if (!sound) {
+        if (!parser.read(draft, n)) {
             return refused(FAULTY);
         }
         takeDraft();
@@ -113,11 +104,11 @@ public final class BusSeats {
     }
 
     public int fault() {
-        return latestFault;
+        return parser.fault;
     }
 
     public int where() {
-        return latestTrouble == FAULTY ? latestPlace : NONE;
+        return latestTrouble == FAULTY ? parser.place : NONE;
     }
 
     // ---- stops
@@ -526,7 +517,7 @@ public final class BusSeats {
             case 8:
                 return hasBus ? plan.cabin.form : 0;
             case 9:
-                return tapeLength;
+                return parser.length;
             default:
                 return NONE;
         }
@@ -583,15 +574,6 @@ public final class BusSeats {
 
     private static int gap(int a, int b) {
         return a < b ? b - a : a - b;
-    }
-
-    private void append(int number) {
-        for (int shift = 24; shift >= 0; shift -= 8) {
-            if (tapeLength < TAPE_BYTES) {
-                tape[tapeLength] = (byte) (number >>> shift);
-                tapeLength++;
-            }
-        }
     }
 
     private void takeDraft() {
@@ -845,7 +827,7 @@ public final class BusSeats {
         }
     }
 
-    /** Reads a text from the left into a plan, up to its first fault. */
+    /** The tape, and how it is read from the left into a plan, up to the first fault. */
     static final class Parser {
         private static final int END = 0;
         private static final int WORD = 1;
@@ -864,9 +846,10 @@ public final class BusSeats {
         private static final int MANY = 5;
         private static final int LACKS = 6;
 
+        int length;
         int fault;
         int place;
-        private final byte[] text;
+        private final byte[] text = new byte[TAPE_BYTES];
         private int end;
         private int next;
         private int kind;
@@ -874,16 +857,22 @@ public final class BusSeats {
         private int value;
         private long word;
 
-        Parser(byte[] text) {
-            this.text = text;
+        void append(int number) {
+            for (int shift = 24; shift >= 0; shift -= 8) {
+                if (length < TAPE_BYTES) {
+                    text[length] = (byte) (number >>> shift);
+                    length++;
+                }
+            }
         }
 
+        /** Reads the first n bytes and empties the tape: whether they tell a bus. */
         boolean read(Plan plan, int n) {
             plan.clear();
-            end = Math.min(n, text.length);
+            end = Math.min(n, length);
+            length = 0;
             next = 0;
             fault = 0;
-            place = NONE;
             advance();
             for (int lines = 0; lines <= end; lines++) {
                 boolean sound = isWord("bus") ? readBus(plan)
