@@ -1460,10 +1460,6 @@ public final class BusSeats {
             }
         }
 
-        void stand(int r) {
-            place[r] = STANDS;
-        }
-
         void sitDown(int r, int seat) {
             int next = plan.cabin.beside[seat];
             for (int q = 0; q < plan.riderCount; q++) {
@@ -1668,15 +1664,11 @@ public final class BusSeats {
                 boolean takes = ties > 0 && holdsBit(best, seat);
                 return takes ? SHARES / ties * sharesOfAll(count - depth - 1) : 0;
             }
-            if (depth + 1 >= rides.length) {
+            // Where one finds no seat, those who come on behind it find none either.
+            if (ties == 0 || depth + 1 >= rides.length) {
                 return 0;
             }
             Ride then = rides[depth + 1];
-            if (ties == 0) {
-                then.copyFrom(now);
-                then.stand(who);
-                return SHARES * sharesFrom(depth + 1, rider, seat);
-            }
             long sum = 0;
             for (int s = 0; s < MOST_SEATS; s++) {
                 if (holdsBit(best, s)) {

@@ -264,6 +264,13 @@ public final class ChoosingTest {
         CHECK.sound(x, "far alone", x.monday(1), 1);
         // C: by its friend B is 0, where A sits; A by C is 1, ahead of 5 by the new one; B takes 7.
         CHECK.sound(x, "friend, like, far", x.monday(4), 3);
+        // A takes 2 in the shade; B, driven, follows its friend to 3 rather than to 1; C takes 1.
+        BusSeats y = CHECK.told("bus rows 1 form 0 door 0 pace 1 rise 1 sun left;rule s shade;rule f friend;"
+            + "rider a on 0 off 9 by s looks 5 age 50;rider b on 0 off 9 by f looks 9 age 50;"
+            + "rider c on 0 off 9 by f looks 5 age 50;friends a,b;holds a row 0 seat 0;holds b row 0 seat 2;"
+            + "holds c row 0 seat 3");
+        CHECK.stops(y, 1);
+        CHECK.sound(y, "by who sits there by then", y.monday(0), 3);
     }
 
     private static void doorway() {

@@ -82,6 +82,12 @@ public final class FilmsTest {
         // From 0 and 11: 3 is far 3 of 0, 4 of 11; 8 is far 4 and 3; 7 is 5 and 2.
         agree(x, 2, 5, 3, 1);
         CHECK.is("likely", x.likely(), 1);
+        // Two rows as far as four seats: 2, 4, 6 and 8 are far 2 of the nearer of 0 and 10.
+        BusSeats y = byRules(3, 1, "aisle,far");
+        for (int s = 2; s <= 8; s += 2) {
+            y.film(1 | 1 << 10, s);
+        }
+        agree(y, 4);
     }
 
     /** A at one window, B at the other, C beside whom it likes more. */

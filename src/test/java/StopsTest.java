@@ -290,6 +290,46 @@ public final class StopsTest {
         CHECK.is("shunned(0) anew", x.shunned(0), 99);
         CHECK.is("order(0) anew", x.order(0), 6);
         CHECK.is("shunned(3) by a", x.shunned(3), 1);
+        // B passed A by in its first seat: that is forgotten when D joins A in its second one.
+        BusSeats y = CHECK.told("bus rows 1 form 0 door 0 pace 1 rise 0 sun none;rule f front;rule w window;"
+            + "rider a on 0 off 9 by w looks 1 age 20;rider b on 0 off 9 by w looks 1 age 50;"
+            + "rider c on 0 off 3 by f looks 1 age 70 proud;rider d on 3 off 9 by f looks 1 age 50");
+        CHECK.stops(y, 2);
+        at(y, 101, 3, 0);
+        CHECK.is("shunned(0) of its first seat", y.shunned(0), 99);
+        CHECK.stops(y, 1);
+        at(y, 1, 3, 0);
+        CHECK.is("shunned(2) by a", y.shunned(2), 0);
+        CHECK.stops(y, 1);
+        at(y, 1, 3, 102, 0);
+        CHECK.is("shunned(0) by d", y.shunned(0), 0);
+    }
+
+    /** A bus on an object that has had another one goes as on a new one. */
+    private static void anotherBus() {
+        String first = "bus rows 1 form 0 door 0 pace 9 rise 9 sun right;rule k like;rule s shade;rule n friend;"
+            + "rider a on 0 off 9 by s looks 1 age 20 bag;rider b on 0 off 9 by s looks 1 age 50 proud;"
+            + "rider c on 0 off 3 by k looks 1 age 70 proud;rider d on 0 off 9 by n looks 1 age 70 proud;friends a,d;"
+            + "friends b,d;holds d row 0 seat 1";
+        String second = "bus rows 2 form 0 door 0 pace 2 rise 3 sun left;rule k like,alone;rule s shade;rule n friend;"
+            + "rider a on 0 off 5 by s looks 3 age 20;rider b on 0 off 9 by k looks 9 age 50;"
+            + "rider c on 1 off 3 by s looks 5 age 70;rider d on 1 off 9 by n looks 1 age 70";
+        BusSeats x = CHECK.told(first);
+        CHECK.stops(x, 3);
+        CHECK.is("given of the first", x.given(), 1);
+        Check.tell(x, second);
+        BusSeats y = CHECK.told(second);
+        for (int s = 0; s < 12; s++) {
+            CHECK.is("stop " + s, x.stop(), y.stop());
+            CHECK.is("given", x.given(), y.given());
+            CHECK.is("free", x.free(), y.free());
+            CHECK.is("sorted", x.sorted(), y.sorted());
+            for (int r = 0; r < 4; r++) {
+                CHECK.is("at", x.at(r), y.at(r));
+                CHECK.is("order", x.order(r), y.order(r));
+                CHECK.is("shunned", x.shunned(r), y.shunned(r));
+            }
+        }
     }
 
     private static void sorted() {
@@ -386,6 +426,7 @@ public final class StopsTest {
         bags();
         orderAndShunned();
         shunnedAnew();
+        anotherBus();
         sorted();
         marks();
         CHECK.end();

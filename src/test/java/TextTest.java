@@ -100,6 +100,14 @@ public final class TextTest {
             + "rider z on 1 off 3 by q looks 0 age 99;rider y on 2 off 11 by q looks 9 age 0 bag proud";
         CHECK.sound(x, "another bus", Check.tell(x, other), 2);
         CHECK.is("seats of another", x.size(4), 2);
+        Check.tell(x, ALL + ";" + RIDER.replace("a on", "b on") + ";friends a,b;holds a row 0 seat 0");
+        CHECK.is("friends", x.size(2), 1);
+        CHECK.is("holders", x.size(3), 1);
+        Check.tell(x, other);
+        Check.tell(x, other);
+        CHECK.is("friends of another", x.size(2), 0);
+        CHECK.is("holders of another", x.size(3), 0);
+        CHECK.is("held of another", x.rider(0, 7), -2);
         CHECK.is("rider of another", x.rider(0, 4), 99);
     }
 
@@ -171,10 +179,28 @@ public final class TextTest {
             fault(1, RULE + ";" + RIDER + ";friends a,^" + kept);
             fault(1, RULE + ";" + RIDER + ";holds ^" + kept);
         }
+        likeWords();
         fault(1, ALL + " proud ^bag");
         fault(1, ALL + " bag ^bag");
         fault(1, ALL + " bag proud ^proud");
         fault(1, RULE + ";" + RIDER + ";friends a ^a");
+    }
+
+    /** Each word that must stand somewhere, with one letter changed, one more, or one less. */
+    private static void likeWords() {
+        String all = ALL.replace(" far", " far,back") + " bag proud;" + RIDER.replace("a on", "b on")
+            + ";friends a,b;holds a row 0 seat 0";
+        java.util.regex.Matcher word = java.util.regex.Pattern.compile("[a-z]{2,}").matcher(all);
+        while (word.find()) {
+            String ahead = all.substring(0, word.start()) + "^";
+            String behind = all.substring(word.end());
+            String it = word.group();
+            for (int i = 0; i < it.length(); i++) {
+                fault(1, ahead + it.substring(0, i) + "q" + it.substring(i + 1) + behind);
+            }
+            fault(1, ahead + it + "s" + behind);
+            fault(1, ahead + it.substring(0, it.length() - 1) + behind);
+        }
     }
 
     /** Each token of a line once replaced by a comma or a number, and the line cut short ahead of it. */
@@ -221,6 +247,17 @@ public final class TextTest {
             + "rider by on 1 off 2 by on looks 0 age 1;friends off,by;holds left row 0 seat 3;holds by row 4 seat 3", 3);
         CHECK.is("rule of left", x.rider(1, 2), 1);
         CHECK.is("rule of by", x.rider(2, 2), 0);
+        // Names of the same letters are not the same.
+        String[] alike = {"ab", "ba", "aab", "aba", "b", "bb", "abababab", "babababa"};
+        StringBuilder text = new StringBuilder("rule a far;rule aa far;rule aaa far;rule aaaaaaaa far;" + BUS);
+        for (int i = 0; i < alike.length; i++) {
+            text.append(";rider ").append(alike[i]).append(" on 0 off 1 by ")
+                .append(new String[] {"a", "aa", "aaa", "aaaaaaaa"}[i % 4]).append(" looks 0 age 0");
+        }
+        BusSeats y = sound(text.toString(), 8);
+        for (int i = 0; i < alike.length; i++) {
+            CHECK.is("rule of " + alike[i], y.rider(i, 2), i % 4);
+        }
         sound("rule abcdefgh far;" + BUS + ";rider abcdefgi on0off1by abcdefgh looks1age1bag proud", 1);
         sound(ALL.replace(" rows", "rows").replace("bus", "bus ").replace(" 2 ", "2").replace(";", " ; "), 1);
     }
