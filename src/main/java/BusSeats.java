@@ -257,8 +257,7 @@ public final class BusSeats {
         if (trouble != 0) {
             return refused(trouble);
         }
-        int best = ride.bestSeats(rider);
-        return answered(ride.chosen(rider, best) == NOBODY ? 0 : Integer.bitCount(best));
+        return answered(Integer.bitCount(ride.tied(rider, ride.bestSeats(rider))));
     }
 
     public long odds(int rider, int seat) {
@@ -1540,6 +1539,11 @@ public final class BusSeats {
             return shy ? NOBODY : seat;
         }
 
+        /** Those of its best seats that a rider might sit in: none at all if it stands by the first of them. */
+        int tied(int r, int best) {
+            return chosen(r, best) == NOBODY ? 0 : best;
+        }
+
         int standers() {
             int found = 0;
             for (int r = 0; r < plan.riderCount; r++) {
@@ -1657,21 +1661,25 @@ public final class BusSeats {
             }
             Ride now = rides[depth];
             int who = boarding[depth];
-            int best = firstTies(now.bestSeats(who));
-            int ties = Integer.bitCount(best);
+            int tied = firstTies(now.tied(who, now.bestSeats(who)));
+            int ties = Integer.bitCount(tied);
             if (who == rider) {
                 // Whoever comes on behind it no longer moves it: all their ways count.
-                boolean takes = ties > 0 && holdsBit(best, seat);
+                boolean takes = ties > 0 && holdsBit(tied, seat);
                 return takes ? SHARES / ties * sharesOfAll(count - depth - 1) : 0;
             }
-            // Where one finds no seat, those who come on behind it find none either.
-            if (ties == 0 || depth + 1 >= rides.length) {
+            if (depth + 1 >= rides.length) {
                 return 0;
             }
             Ride then = rides[depth + 1];
+            if (ties == 0) {
+                // It stands in all of its ways; one behind it may be less proud and sit.
+                then.copyFrom(now);
+                return SHARES * sharesFrom(depth + 1, rider, seat);
+            }
             long sum = 0;
             for (int s = 0; s < MOST_SEATS; s++) {
-                if (holdsBit(best, s)) {
+                if (holdsBit(tied, s)) {
                     then.copyFrom(now);
                     then.sitDown(who, s);
                     sum += sharesFrom(depth + 1, rider, seat);

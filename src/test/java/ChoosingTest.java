@@ -150,6 +150,8 @@ public final class ChoosingTest {
         CHECK.refused(n, "ways of no bus", n.ways(), 1);
         fewSeats();
         oddsByOthers();
+        oddsOfTheProud();
+        oddsOfTheProudTogether();
         tooMany();
     }
 
@@ -173,10 +175,10 @@ public final class ChoosingTest {
     }
 
     private static void oddsByOthers() {
-        // Zoe gets off and Yan moves to a seat first; Ann is proud and sits beside all the same.
+        // Zoe gets off first, so that Ann and all behind her find her seat free.
         BusSeats x = CHECK.told("bus rows 1 form 0 door 0 pace 1 rise 1 sun none;rule f front;rule a aisle;rule k like;"
             + "rider zoe on 0 off 1 by f looks 0 age 50;rider yan on 0 off 5 by f looks 9 age 50;"
-            + "rider ann on 1 off 5 by f looks 3 age 50 bag proud;rider ben on 1 off 5 by k looks 8 age 50;"
+            + "rider ann on 1 off 5 by f looks 3 age 50 bag;rider ben on 1 off 5 by k looks 8 age 50;"
             + "rider cid on 1 off 5 by f looks 8 age 50;rider dot on 1 off 5 by f looks 8 age 50");
         CHECK.stops(x, 1);
         CHECK.is("yan", x.at(1), 1);
@@ -197,6 +199,57 @@ public final class ChoosingTest {
             CHECK.sound(x, "odds of dot, who stands, in " + s, x.odds(5, s), 0);
         }
         CHECK.is("zoe is on still", x.at(0), 0);
+    }
+
+    private static void oddsOfTheProud() {
+        // Seat 0 is Ann's: by the first of 1, 2, 3 Bo stands, and Cy behind him has all three as if he had not come.
+        String text = "bus rows 1 form 0 door 0 pace 1 rise 0 sun none;rule f front;"
+            + "rider ann on 0 off 9 by f looks 0 age 50;rider bo on 1 off 9 by f looks 0 age 50 proud;"
+            + "rider cy on 1 off 9 by f looks 0 age 50";
+        BusSeats x = CHECK.told(text);
+        CHECK.stops(x, 1);
+        CHECK.sound(x, "ties of bo", x.ties(1), 0);
+        CHECK.sound(x, "ways of bo and cy", x.ways(), LOT * LOT);
+        for (int s = 0; s < 4; s++) {
+            CHECK.sound(x, "odds of bo, who stands, in " + s, x.odds(1, s), 0);
+            CHECK.sound(x, "odds of cy behind bo in " + s, x.odds(2, s), s == 0 ? 0 : LOT * (LOT / 3));
+        }
+        // The seat beside Ann is his own: there he sits.
+        BusSeats y = CHECK.told(text + ";holds bo row 0 seat 1");
+        CHECK.stops(y, 1);
+        for (int s = 0; s < 4; s++) {
+            CHECK.sound(y, "odds of bo in his own, " + s, y.odds(1, s), s == 1 ? LOT * LOT : 0);
+            CHECK.sound(y, "odds of cy by then in " + s, y.odds(2, s), s < 2 ? 0 : LOT * (LOT / 2));
+        }
+        // Ann in 3: nobody is beside the first, 0; then he sits in 2 by Ann as often, proud or not.
+        BusSeats z = CHECK.told(text + ";holds ann row 0 seat 3");
+        CHECK.stops(z, 1);
+        CHECK.sound(z, "ties of bo, ann in 3", z.ties(1), 3);
+        for (int s = 0; s < 4; s++) {
+            CHECK.sound(z, "odds of bo, ann in 3, in " + s, z.odds(1, s), s == 3 ? 0 : LOT / 3 * LOT);
+        }
+    }
+
+    private static void oddsOfTheProudTogether() {
+        // Ann in 0 or 1: Bo stands; Ann in 2 or 3: he sits in each of the other three.
+        BusSeats x = CHECK.told("bus rows 1 form 0 door 0 pace 1 rise 0 sun none;rule f front;"
+            + "rider ann on 0 off 9 by f looks 0 age 50;rider bo on 0 off 9 by f looks 0 age 50 proud;"
+            + "rider cy on 0 off 9 by f looks 0 age 50");
+        CHECK.sound(x, "ties of bo ahead of all", x.ties(1), 4);
+        for (int s = 0; s < 4; s++) {
+            CHECK.sound(x, "ann in " + s, x.odds(0, s), LOT / 4 * LOT * LOT);
+            CHECK.sound(x, "bo by ann in " + s, x.odds(1, s), (s < 2 ? 2 : 1) * (LOT / 4) * (LOT / 3) * LOT);
+            CHECK.sound(x, "cy by both in " + s, x.odds(2, s), LOT / 4 * LOT * LOT);
+        }
+        // Only a bag's seat is left, beside its owner: the proud one stands, who comes on behind takes it.
+        BusSeats y = CHECK.told("bus rows 1 form 1 door 0 pace 1 rise 0 sun none;rule f front;"
+            + "rider ann on 0 off 9 by f looks 0 age 50;rider dee on 0 off 9 by f looks 0 age 50 bag;"
+            + "rider bo on 1 off 9 by f looks 0 age 50 proud;rider cy on 1 off 9 by f looks 0 age 50");
+        CHECK.stops(y, 1);
+        CHECK.is("dee's bag", y.bag(3), 1);
+        CHECK.sound(y, "bo by the bag", y.odds(2, 3), 0);
+        CHECK.sound(y, "cy takes it off", y.odds(3, 3), LOT * LOT);
+        CHECK.is("the bag lies there still", y.bag(3), 1);
     }
 
     private static void tooMany() {

@@ -11,6 +11,7 @@ import java.util.Random;
 public final class ModelTest {
     private static final int RUNS = 1500;
     private static final int CALLS = 300;
+    private static final int CROWD_STOPS = 3;
 
     private final Random random;
     private final Map<String, Method> methods = new HashMap<>();
@@ -203,12 +204,49 @@ public final class ModelTest {
         }
     }
 
+    /** Small buses where few come on at a time, many of them proud: odds of each rider, stop by stop. */
+    private String crowdText() {
+        List<String> riders = List.of("ada", "bo", "cy", "di", "ed", "flo", "gus").subList(0, 2 + upTo(5));
+        List<String> lines = new ArrayList<>(List.of("bus rows " + (1 + upTo(1)) + " form " + upTo(2)
+            + " door 0 pace 1 rise 1 sun " + of(List.of("left", "right", "none")), rule("r"), rule("q")));
+        for (String rider : riders) {
+            int on = upTo(CROWD_STOPS - 1);
+            lines.add("rider " + rider + " on " + on + " off " + (on + 1 + upTo(3)) + " by " + of(List.of("r", "q"))
+                + " looks " + upTo(9) + " age " + of(List.of(20, 50, 70)) + (chance(30) ? " bag" : "")
+                + (chance(50) ? " proud" : ""));
+        }
+        if (chance(50)) {
+            lines.add("holds " + of(riders) + " row 0 seat " + upTo(3));
+        }
+        if (chance(50)) {
+            lines.add("friends ada, bo");
+        }
+        return String.join(";", lines);
+    }
+
+    private void crowd(Check check) {
+        BusSeats x = new BusSeats();
+        PlainBus plain = new PlainBus();
+        String text = crowdText();
+        tell(check, x, plain, text);
+        for (int stop = 0; stop < CROWD_STOPS; stop++) {
+            both(check, x, plain, text, "ways");
+            for (int r = 0; r < 7; r++) {
+                both(check, x, plain, text, "ties", r);
+                both(check, x, plain, text, "odds", r, upTo(7));
+                both(check, x, plain, text, "odds", r, upTo(3));
+            }
+            both(check, x, plain, text, "stop");
+        }
+    }
+
     public static void main(String[] args) {
         Check check = new Check("ModelTest");
         int runs = args.length > 0 ? Integer.parseInt(args[0]) : RUNS;
         int seed = args.length > 1 ? Integer.parseInt(args[1]) : 1;
         for (int i = 0; i < runs; i++) {
             new ModelTest(seed * 1000003L + i).run(check);
+            new ModelTest(seed * 2000003L + i).crowd(check);
         }
         check.end();
     }

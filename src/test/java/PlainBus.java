@@ -469,7 +469,7 @@ final class PlainBus {
             case "ties":
                 needRider(a[0]);
                 need(now.at[a[0]] == NOT_ON || now.at[a[0]] == STANDS, 5);
-                return choose(now, a[0]) == -2 ? 0 : best(now, a[0]).size();
+                return tied(now, a[0]).size();
             case "odds":
                 needRider(a[0]);
                 needSeat(a[1]);
@@ -706,6 +706,10 @@ final class PlainBus {
         return p.proud && p.holds != s && st.sits.containsKey(told.beside(told.form, s)) ? -2 : s;
     }
 
+    private TreeSet<Integer> tied(State st, int r) {
+        return choose(st, r) == -2 ? new TreeSet<>() : best(st, r);
+    }
+
     private void sit(State st, int r, int s) {
         st.bags.remove(s);
         st.at[r] = s;
@@ -850,7 +854,7 @@ final class PlainBus {
         if (i == who.size()) {
             return st.at[rider] == seat ? weight : 0;
         }
-        List<Integer> ties = new ArrayList<>(best(st, who.get(i)));
+        List<Integer> ties = new ArrayList<>(tied(st, who.get(i)));
         if (ties.isEmpty()) {
             State next = st.copy();
             next.at[who.get(i)] = STANDS;
