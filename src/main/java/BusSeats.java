@@ -1223,6 +1223,7 @@ public final class BusSeats {
     static final class Scene {
         private static final int NOBODY_NEAR = 99;
         private static final int LIKE_NOBODY = 5;
+        private static final int WORST = -100;
 
         final int[] sitter = new int[MOST_SEATS];
         final int[] looks = new int[MOST_RIDERS + 1];
@@ -1255,7 +1256,7 @@ public final class BusSeats {
             int left = open;
             for (int i = 0; i < rule.count; i++) {
                 int kept = 0;
-                int top = Integer.MIN_VALUE;
+                int top = WORST;
                 for (int s = 0; s < MOST_SEATS; s++) {
                     if (!holdsBit(left, s)) {
                         continue;

@@ -9,13 +9,15 @@ import java.util.Random;
 
 /** Runs by a fixed seed, sound and wrong calls mixed, each answer held against that of PlainBus. */
 public final class ModelTest {
-    private static final int RUNS = 1500;
-    private static final int CALLS = 300;
+    private static final int RUNS = 2500;
+    // What later calls answer is free.
+    private static final int MOST_CALLS = 512;
     private static final int CROWD_STOPS = 3;
 
     private final Random random;
     private final Map<String, Method> methods = new HashMap<>();
     private final List<String> names = new ArrayList<>();
+    private int calls;
 
     private ModelTest(long seed) {
         random = new Random(seed);
@@ -169,6 +171,10 @@ public final class ModelTest {
     }
 
     private void both(Check check, BusSeats x, PlainBus plain, String text, String name, int... a) {
+        calls += 3;
+        if (calls > MOST_CALLS) {
+            return;
+        }
         String what = name + java.util.Arrays.toString(a) + " of " + text;
         check.is(what, answer(x, name, a), plain.call(name, a));
         check.is("trouble behind " + what, x.trouble(), plain.call("trouble"));
@@ -177,7 +183,10 @@ public final class ModelTest {
 
     private void tell(Check check, BusSeats x, PlainBus plain, String text) {
         for (int[] row : Check.rows(text)) {
-            both(check, x, plain, text, "feed", row);
+            calls++;
+            if (calls <= MOST_CALLS) {
+                check.is("feed of " + text, answer(x, "feed", row), plain.call("feed", row));
+            }
         }
         both(check, x, plain, text, "bus", chance(95) ? text.length() : number());
         both(check, x, plain, text, "fault");
@@ -188,7 +197,7 @@ public final class ModelTest {
         PlainBus plain = new PlainBus();
         String text = "";
         int dear = 0;
-        for (int call = 0; call < CALLS; call++) {
+        for (int call = 0; calls < MOST_CALLS; call++) {
             if (call == 5 || chance(1)) {
                 text = text();
                 if (chance(40)) {

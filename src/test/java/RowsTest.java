@@ -15,8 +15,9 @@ public final class RowsTest {
         return true;
     }
 
-    private static void byCounting(BusSeats x) {
+    private static void byCounting() {
         for (int n = 1; n <= 14; n++) {
+            BusSeats x = new BusSeats();
             long[] ways = new long[41];
             int most = 0;
             int least = 99;
@@ -36,9 +37,35 @@ public final class RowsTest {
         }
     }
 
+    /** With the last place empty as in one place less, with somebody in it as in two less. */
+    private static void upToForty() {
+        long[][] ways = new long[41][42];
+        ways[0][0] = 1;
+        for (int n = 1; n <= 40; n++) {
+            BusSeats x = new BusSeats();
+            for (int k = 0; k <= 40; k++) {
+                long taken = k == 0 ? 0 : n == 1 ? (k == 1 ? 1 : 0) : ways[n - 2][k - 1];
+                ways[n][k] = ways[n - 1][k] + taken;
+                CHECK.sound(x, "alone(" + n + ", " + k + ")", x.alone(n, k), ways[n][k]);
+            }
+            int full = 0;
+            while (ways[n][full + 1] > 0) {
+                full++;
+            }
+            CHECK.sound(x, "full(" + n + ")", x.full(n), full);
+            // Each one who sits keeps at most three places from the others, itself in the middle.
+            int fewest = 0;
+            for (int left = n; left > 0; left -= 3) {
+                fewest++;
+            }
+            CHECK.sound(x, "fewest(" + n + ")", x.fewest(n), fewest);
+        }
+    }
+
     private static void rows() {
+        byCounting();
+        upToForty();
         BusSeats x = new BusSeats();
-        byCounting(x);
         CHECK.sound(x, "alone(40, 1)", x.alone(40, 1), 40);
         CHECK.sound(x, "alone(40, 12)", x.alone(40, 12), 51895935L);
         CHECK.sound(x, "alone(40, 13)", x.alone(40, 13), 37442160L);

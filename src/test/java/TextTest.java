@@ -326,6 +326,229 @@ public final class TextTest {
         sound(ALL + " bag proud", 1);
     }
 
+    private static void faultAt(int number, int place, String text) {
+        fault(number, text.substring(0, place) + "^" + text.substring(place));
+    }
+
+    /** Each byte that there is, in places where some are let through: those next to letters, digits and signs, too. */
+    private static void bytes() {
+        for (int b = 0; b < 256; b++) {
+            String c = String.valueOf((char) b);
+            boolean blank = b == 32;
+            boolean letter = b >= 97 && b <= 122;
+            boolean digit = b >= 48 && b <= 57;
+            faultAt(1, blank ? 1 : 0, c);
+            faultAt(letter ? 6 : 1, letter ? 10 : blank ? 7 : 5, "rule " + c + " far");
+            faultAt(letter ? 6 : 1, letter ? 12 : blank ? 7 : 6, "rule a" + c + "b far");
+            boolean rows = b >= 49 && b <= 53;
+            faultAt(digit && !rows ? 4 : 1, rows || blank ? 10 : 9, "bus rows " + c);
+            faultAt(digit ? 4 : 1, digit ? 9 : blank ? 16 : 10, "bus rows 3" + c + " form");
+            boolean comma = b == 44;
+            boolean end = b == 59;
+            faultAt(comma ? 6 : 1, comma ? 15 : letter ? 7 : blank || end ? 11 : 10, "rule r far" + c + "back");
+            if (blank) {
+                sound(ALL + c, 1);
+            } else {
+                int length = ALL.length();
+                faultAt(digit ? 4 : 1, digit ? length - 2 : end ? length + 1 : length, ALL + c);
+            }
+        }
+    }
+
+    /** The place of each byte that a row of feed brings: the first number's highest is the first. */
+    private static void bytesOfARow() {
+        for (int place = 0; place < 20; place++) {
+            for (int sign : new int[] {0, 31, 33, 127, 128, 255}) {
+                int[] row = new int[5];
+                for (int i = 0; i < 20; i++) {
+                    row[i / 4] = row[i / 4] << 8 | (i == place ? sign : 32);
+                }
+                BusSeats x = new BusSeats();
+                CHECK.is("feed", x.feed(row[0], row[1], row[2], row[3], row[4]), 20);
+                CHECK.refused(x, "bus of " + sign + " in " + place, x.bus(20), 4);
+                CHECK.is("fault of " + sign + " in " + place, x.fault(), 1);
+                CHECK.is("where of " + sign + " in " + place, x.where(), place);
+            }
+        }
+        // The greatest and the least number bring bytes as any other does.
+        int[] utmost = {Integer.MAX_VALUE, Integer.MIN_VALUE, -1, 0, 1};
+        for (int i = 0; i < 5; i++) {
+            int[] row = {0x20202020, 0x20202020, 0x20202020, 0x20202020, 0x20202020};
+            row[i] = utmost[i];
+            BusSeats x = new BusSeats();
+            CHECK.is("feed of " + utmost[i], x.feed(row[0], row[1], row[2], row[3], row[4]), 20);
+            CHECK.refused(x, "bus of " + utmost[i], x.bus(20), 4);
+            CHECK.is("where of " + utmost[i], x.where(), 4 * i);
+        }
+    }
+
+    /** A tape that is full to its last byte: what does not fit changes none of them. */
+    private static void fullTape() {
+        String text = " ".repeat(900 - ALL.length()) + ALL;
+        BusSeats x = new BusSeats();
+        Check.feed(x, text);
+        CHECK.is("900", x.size(9), 900);
+        for (int i = 0; i < 3; i++) {
+            CHECK.is("none comes", x.feed(-1, -1, -1, -1, -1), -1);
+            CHECK.is("900 still", x.size(9), 900);
+        }
+        CHECK.refused(x, "bus of 901", x.bus(901), 2);
+        CHECK.sound(x, "bus of 900", x.bus(900), 1);
+        CHECK.is("empty", x.size(9), 0);
+        Check.feed(x, text);
+        CHECK.sound(x, "all but the last byte", x.bus(899), 1);
+        CHECK.is("age without its last digit", x.rider(0, 4), 3);
+    }
+
+    /** As much of each sort of line as there is room for, in all of the tape's bytes. */
+    private static void fullLines() {
+        StringBuilder text = new StringBuilder("bus rows5form2door4pace9rise9sun right;rule abcdefgh alone,far,window,"
+            + "aisle;rule on front,back,shade,like;rule off friend,like,shade,back;rule by far,alone,friend,aisle");
+        String[] names = {"looks", "age", "rows", "row", "seat", "sun", "zzzzzzzz", "left"};
+        for (int i = 0; i < 8; i++) {
+            text.append(";rider ").append(names[i]).append(" on 010 off 011 by abcdefgh looks 009 age 099 bag proud");
+        }
+        text.append(";friends looks,age;friends age,rows;friends rows,looks");
+        for (int i = 4; i < 8; i++) {
+            text.append(";holds ").append(names[i]).append(" row 4 seat ").append(i - 4);
+        }
+        text.append(" ".repeat(900 - text.length()));
+        BusSeats x = sound(text.toString(), 8);
+        int[] sizes = {8, 4, 3, 4, 10, 0, 0, 0, 2, 0};
+        for (int what = 0; what < 10; what++) {
+            CHECK.is("size(" + what + ") of full lines", x.size(what), sizes[what]);
+        }
+        for (int r = 0; r < 8; r++) {
+            int[] due = {10, 11, 0, 9, 99, 1, 1, r < 4 ? -2 : 16 + r - 4};
+            for (int what = 0; what < 8; what++) {
+                CHECK.is("rider(" + r + ", " + what + ") of full lines", x.rider(r, what), due[what]);
+            }
+        }
+        // The least of all: one of each, the least numbers.
+        BusSeats y = sound("bus rows 1 form 0 door 0 pace 1 rise 0 sun none;rule r friend;rider a on 0 off 1 by r looks 0"
+            + " age 0", 1);
+        int[] least = {0, 1, 0, 0, 0, 0, 0, -2};
+        for (int what = 0; what < 8; what++) {
+            CHECK.is("rider(0, " + what + ") of the least", y.rider(0, what), least[what]);
+        }
+        CHECK.is("way of the least", y.way(0, 0), 8);
+        CHECK.is("no second way", y.way(0, 1), -1);
+    }
+
+    /** Words that stand in lines but are not kept are names as any other. */
+    private static void freeWords() {
+        for (String word : ("on off by looks age rows form door pace rise sun left right none row seat a z aaaaaaaa"
+            + " zzzzzzzz buses rules riders friendss hold bags prouder alones fa").split(" ")) {
+            String other = word.equals("a") ? "b" : "a";
+            BusSeats x = sound(BUS + ";rule " + word + " far;rider " + other + " on 0 off 1 by " + word
+                + " looks 0 age 0;holds " + other + " row 0 seat 2", 1);
+            CHECK.is("holds by " + word, x.rider(0, 7), 2);
+            String told = " on 0 off 1 by rr looks 0 age 0";
+            BusSeats y = sound(BUS + ";rule rr far;rider " + word + told + ";rider " + other + told + ";friends " + word
+                + "," + other + ";holds " + word + " row 1 seat 1", 2);
+            CHECK.is("holds of " + word, y.rider(0, 7), 5);
+        }
+        fault(1, "rule ^aaaaaaaaa far");
+        fault(1, RULE + ";rider ^aaaaaaaaa on 0");
+        fault(1, RULE + ";rider a on 0 off 1 by ^rrrrrrrrr");
+    }
+
+    /** Numbers of one, two and three digits are told alike; one of four is no token, however small. */
+    private static void digits() {
+        BusSeats x = sound("bus rows 005 form 00 door 004 pace 09 rise 000 sun none;" + RULE
+            + ";rider a on 007 off 08 by r looks 03 age 042;holds a row 004 seat 03", 1);
+        CHECK.is("rows", x.size(4), 20);
+        CHECK.is("on", x.rider(0, 0), 7);
+        CHECK.is("off", x.rider(0, 1), 8);
+        CHECK.is("looks", x.rider(0, 3), 3);
+        CHECK.is("age", x.rider(0, 4), 42);
+        CHECK.is("held", x.rider(0, 7), 19);
+        CHECK.is("pace", x.layout(2, 3), 2 * 9 * (5 + 4 + 3 + 2 + 1));
+        String[] ahead = {"bus rows ", "bus rows 1 form ", "bus rows 1 form 0 door ", "bus rows 1 form 0 door 0 pace ",
+            "bus rows 1 form 0 door 0 pace 1 rise ", RULE + ";rider a on ", RULE + ";rider a on 0 off ",
+            RULE + ";rider a on 0 off 1 by r looks ", RULE + ";rider a on 0 off 1 by r looks 0 age ",
+            RULE + ";" + RIDER + ";holds a row ", RULE + ";" + RIDER + ";holds a row 0 seat "};
+        for (String before : ahead) {
+            fault(1, before + "^0001");
+            fault(1, before + "^1000");
+            fault(1, before + "^99999999999999999999");
+            fault(1, before + "^4294967297");
+            fault(4, before + "^999");
+            fault(4, before + "^100");
+            // A sign is no part of a number.
+            fault(1, before + "^-1");
+            fault(1, before + "^+1");
+        }
+    }
+
+    /** Ways: each in each place of a rule, and each told again from each place. */
+    private static void ways() {
+        String[] all = {"alone", "far", "window", "aisle", "front", "back", "shade", "like", "friend"};
+        for (int first = 0; first < 9; first++) {
+            StringBuilder rule = new StringBuilder("rule r ");
+            for (int i = 0; i < 4; i++) {
+                int last = (first + i) % 9;
+                rule.append(i == 0 ? "" : ", ").append(all[last]);
+                BusSeats x = sound(BUS + ";" + rule + ";" + RIDER, 1);
+                for (int w = 0; w <= i; w++) {
+                    CHECK.is("way " + w + " of " + rule, x.way(0, w), (first + w) % 9);
+                }
+                CHECK.is("way behind the last of " + rule, x.way(0, i + 1), -1);
+                for (int w = 0; w <= i; w++) {
+                    fault(3, rule + ",^" + all[(first + w) % 9]);
+                }
+                fault(i == 3 ? 5 : 6, i == 3 ? rule + ",^" + all[(last + 1) % 9] : rule + "," + all[(last + 1) % 9] + "^");
+            }
+        }
+    }
+
+    /** Friends: two told again behind others, each of them with more friends than that one. */
+    private static void friends() {
+        String four = RULE;
+        for (String name : new String[] {"a", "b", "c", "d"}) {
+            four += ";" + RIDER.replace("a on", name + " on");
+        }
+        String pairs = four + ";friends a,b;friends a,c";
+        fault(3, pairs + ";friends a,^b");
+        fault(3, pairs + ";friends b,^a");
+        fault(3, pairs + ";friends c,^a");
+        fault(3, four + ";friends b,a;friends c,a;friends a,^b");
+        fault(3, four + ";friends b,a;friends c,a;friends b,^a");
+        fault(3, four + ";friends d,c;friends d,^c");
+        fault(3, four + ";friends d,c;friends c,^d");
+        fault(3, four + ";friends d,^d");
+        fault(6, pairs + ";friends b,c^");
+        sound(BUS + ";" + pairs + ";friends c,b", 4);
+        // Told of a former bus, not of this one.
+        BusSeats x = new BusSeats();
+        for (int i = 0; i < 4; i++) {
+            CHECK.sound(x, "friends anew", Check.tell(x, BUS + ";" + pairs + ";friends d,c;holds a row 0 seat 0"), 4);
+            CHECK.is("three pairs", x.size(2), 3);
+        }
+    }
+
+    /** Of two faults the first from the left, whatever their numbers. */
+    private static void leftFirst() {
+        fault(4, "bus rows ^6 form 7;;");
+        fault(1, "bus rows 5 ^x 7;rule r far,far");
+        fault(2, RULE + ";rider a on 0 off 1 by ^q looks 77 age 1000");
+        fault(4, RULE + ";rider a on ^11 off 3 by q");
+        fault(3, "rule r far,^far,near");
+        fault(1, "rule r far,^near,far");
+        fault(3, RULE + ";" + RIDER + ";rider ^a on 77");
+        fault(5, "rule a far;rule b far;rule c far;rule d far;^rule bus far");
+        fault(3, "rule a far;rule b far;rule c far;rule d far,^far;rule e far");
+        fault(1, "rule r far^\u00ff;rule r far");
+        fault(3, RULE + ";rule ^r far\u00ff");
+        fault(2, RULE + ";" + RIDER + ";friends ^x,x");
+        fault(2, RULE + ";" + RIDER + ";holds ^x row 9");
+        // Of one place the least: the end is no place to go on from, and what lacks is met there, too.
+        fault(1, BUS + ";^");
+        fault(1, BUS + ";" + RULE + ";^");
+        fault(1, BUS + ";" + RULE + ";rider^");
+        fault(1, "rule r^");
+    }
+
     public static void main(String[] args) {
         promise1();
         promise2();
@@ -336,6 +559,15 @@ public final class TextTest {
         bounds();
         many();
         lacks();
+        bytes();
+        bytesOfARow();
+        fullTape();
+        fullLines();
+        freeWords();
+        digits();
+        ways();
+        friends();
+        leftFirst();
         CHECK.end();
     }
 }
