@@ -167,6 +167,35 @@ public final class ChoosingEdgesTest {
         }
     }
 
+    /** A proud one who holds a seat: free, with a bag, taken, or none of this bus; and no seat left at all. */
+    private static void proudHolder() {
+        String text = bus(1, 0) + ";rule f front" + rider("a", 0, 9, "f", 1, " bag") + rider("b", 0, 9, "f", 1, " bag")
+            + rider("c", 1, 9, "f", 1, " proud") + holds("a", 0);
+        // Both bags lie in the seats beside, 1 and 3: of these the first is by A.
+        int[][] due = {{0, -2, 0}, {1, 1, 2}, {2, -2, 0}, {3, -2, 0}, {4, -2, 0}, {19, -2, 0}};
+        for (int[] d : due) {
+            BusSeats x = CHECK.told(text + holds("c", d[0]));
+            CHECK.sound(x, "choice ahead, of " + d[0], x.choice(2), d[0] < 4 ? d[0] : 0);
+            CHECK.sound(x, "ties ahead, of " + d[0], x.ties(2), d[0] < 4 ? 1 : 4);
+            CHECK.stops(x, 1);
+            CHECK.is("none is free", x.free(), 0);
+            CHECK.sound(x, "choice by bags, of " + d[0], x.choice(2), d[1]);
+            CHECK.sound(x, "ties by bags, of " + d[0], x.ties(2), d[2]);
+            CHECK.stops(x, 1);
+            CHECK.is("c, of " + d[0], x.at(2), d[1] == -2 ? 101 : d[1]);
+        }
+        for (int held : new int[] {0, 2, 3, 4, 18}) {
+            BusSeats x = CHECK.told(bus(1, 2) + ";rule f front" + rider("a", 0, 9, "f", 1, "")
+                + rider("b", 0, 9, "f", 1, "") + rider("c", 1, 9, "f", 1, " proud") + holds("c", held));
+            CHECK.stops(x, 1);
+            CHECK.sound(x, "choice of none left, of " + held, x.choice(2), -2);
+            CHECK.sound(x, "ties of none left, of " + held, x.ties(2), 0);
+            CHECK.sound(x, "odds of none left, of " + held, x.odds(2, 0), 0);
+            CHECK.stops(x, 1);
+            CHECK.is("c stands, of " + held, x.at(2), 101);
+        }
+    }
+
     /** Looks of every two: nearer than 5 is better than nobody, 5 as good, more is worse. */
     private static void everyTwoLooks() {
         for (int one = 0; one <= 9; one++) {
@@ -379,6 +408,7 @@ public final class ChoosingEdgesTest {
         oddsBehindTheStop();
         oddsByLooks();
         everyTwoFriends();
+        proudHolder();
         everyTwoLooks();
         farFromEverySeat();
         mondayOfEight();

@@ -223,6 +223,34 @@ public final class StopEdgesTest {
         CHECK.sound(y, "a gave again", y.given(), 3);
     }
 
+    /** Whatever lines the old one and the young one have, the first and the last, too. */
+    private static void everyOldAndYoung() {
+        for (int old = 0; old < 8; old++) {
+            for (int young = 0; young < 8; young++) {
+                int third = old != 3 && young != 3 ? 3 : old != 4 && young != 4 ? 4 : 5;
+                if (old == young) {
+                    continue;
+                }
+                StringBuilder text = new StringBuilder(bus(1, 2, 0, 1, 9) + ";rule f front");
+                for (int r = 0; r < 8; r++) {
+                    text.append(r == old ? rider(EIGHT[r], 1, 9, "f", 65, "")
+                        : r == young ? rider(EIGHT[r], 0, 9, "f", 39, "")
+                        : rider(EIGHT[r], r == third ? 0 : 10, 11, "f", 40, ""));
+                }
+                BusSeats x = CHECK.told(text.toString());
+                CHECK.stops(x, 2);
+                int seat = x.at(young);
+                CHECK.is("the old one stands", x.standing(), 1 << old);
+                CHECK.is("it is led", x.led(0), old);
+                CHECK.stops(x, 1);
+                CHECK.is("the old one sits there", x.at(old), seat);
+                CHECK.is("the young one stands", x.standing(), 1 << young);
+                CHECK.is("the young one is led", x.led(0), young);
+                CHECK.is("the third one sits still", x.at(third), 3 - seat);
+            }
+        }
+    }
+
     /** Bags where seats are given: the young one takes its own, the old one lays its own. */
     private static void bagsWhereGiven() {
         BusSeats x = CHECK.told(bus(1, 0, 0, 1, 0) + ";rule f front;rule w window" + rider("a", 0, 9, "w", 20, " bag")
@@ -406,6 +434,7 @@ public final class StopEdgesTest {
         firstAndLastStop();
         mostStand();
         twoGive();
+        everyOldAndYoung();
         bagsWhereGiven();
         bagAtEitherEnd();
         shunnedByMany();

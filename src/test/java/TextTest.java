@@ -343,6 +343,9 @@ public final class TextTest {
             boolean rows = b >= 49 && b <= 53;
             faultAt(digit && !rows ? 4 : 1, rows || blank ? 10 : 9, "bus rows " + c);
             faultAt(digit ? 4 : 1, digit ? 9 : blank ? 16 : 10, "bus rows 3" + c + " form");
+            toldName("rule r far;rider a on 0 off 1 by ", c, 'r');
+            toldName(RULE + ";" + RIDER + ";friends ", c, 'a');
+            toldName(RULE + ";" + RIDER + ";holds ", c, 'a');
             boolean comma = b == 44;
             boolean end = b == 59;
             faultAt(comma ? 6 : 1, comma ? 15 : letter ? 7 : blank || end ? 11 : 10, "rule r far" + c + "back");
@@ -353,6 +356,13 @@ public final class TextTest {
                 faultAt(digit ? 4 : 1, digit ? length - 2 : end ? length + 1 : length, ALL + c);
             }
         }
+    }
+
+    /** A byte where a name that is told must stand: the one letter that is told, another one, or none. */
+    private static void toldName(String ahead, String c, char told) {
+        char it = c.charAt(0);
+        boolean untold = it >= 97 && it <= 122 && it != told;
+        faultAt(untold ? 2 : 1, ahead.length() + (it == told || it == 32 ? 1 : 0), ahead + c);
     }
 
     /** The place of each byte that a row of feed brings: the first number's highest is the first. */
