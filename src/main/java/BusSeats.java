@@ -952,13 +952,16 @@ public final class BusSeats {
             Rule rule = plan.rules[plan.ruleCount];
             rule.name = word;
             rule.count = 0;
-            // The first way stands where each further one's comma would: one step in any case.
-            do {
+            // One step is over the name ahead of the first way, over a comma ahead of each further one, the fifth too.
+            for (int i = 0; i <= MOST_WAYS; i++) {
                 advance();
                 if (!readWay(rule)) {
                     return false;
                 }
-            } while (kind == COMMA && rule.count <= MOST_WAYS);
+                if (kind != COMMA) {
+                    break;
+                }
+            }
             plan.ruleCount++;
             return true;
         }
